@@ -863,7 +863,7 @@ public final class KnotDiagram {
             int ends = seen;
             int end = start;
             for (int step = 0; step < MOST_ENDS && !contains(ends, end); step++) {
-                // An A-smoothing leads from 0 to 1 and from 2 to 3, a B-smoothing from 0 to 3 and from 1 to 2.
+                // An A-smoothing joins 0 with 1 and 2 with 3, a B-smoothing 0 with 3 and 1 with 2.
                 int smoothed = contains(state, end >> 2) ? end ^ 3 : end ^ 1;
                 ends |= bit(end) | bit(smoothed);
                 end = smoothed >= 0 && smoothed < MOST_ENDS ? otherEnds[smoothed] : start;

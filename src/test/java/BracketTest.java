@@ -1,7 +1,5 @@
 /** Promises 21 to 26: loops of states, the bracket, the normalized bracket and the determinant. */
 public final class BracketTest {
-    private static final String TREFOIL = "x1 4 2 5;x3 6 4 1;x5 2 6 3;";
-
     private BracketTest() {
     }
 
@@ -17,7 +15,7 @@ public final class BracketTest {
     }
 
     private static void loops() {
-        KnotDiagram d = Check.loaded(TREFOIL + "o;");
+        KnotDiagram d = Check.loaded(Texts.TREFOIL + "o;");
         int[] want = {4, 3, 3, 2, 3, 2, 2, 3};
         for (int state = 0; state < 8; state++) {
             Check.due("stateLoops(" + state + ")", d.stateLoops(state), want[state]);
@@ -69,7 +67,7 @@ public final class BracketTest {
         duePolynomial("a kink and a circle", Check.loaded("x1 1 2 2;o;"), false, 1, 1, 5, 1);
         duePolynomial("a virtual crossing", Check.loaded("x1 2 1 2;"), false, -1, 1, 1, 1);
         duePolynomial("a Hopf link", Check.loaded("x4 1 3 2;x2 3 1 4;"), false, -4, -1, 4, -1);
-        duePolynomial("a trefoil", Check.loaded(TREFOIL), false, -5, -1, 3, -1, 7, 1);
+        duePolynomial("a trefoil", Check.loaded(Texts.TREFOIL), false, -5, -1, 3, -1, 7, 1);
         duePolynomial("a kink, normalized", Check.loaded("x1 1 2 2;"), true, 0, 1);
         duePolynomial("the other kink, normalized", Check.loaded("x1 2 2 1;"), true, 0, 1);
         duePolynomial("two circles, normalized", Check.loaded("o;o;"), true, -2, -1, 2, -1);
@@ -79,7 +77,7 @@ public final class BracketTest {
 
     /** Tables of knots give these polynomials and determinants. */
     private static void knots() {
-        dueKnot(TREFOIL, 3, 4, 1, 12, 1, 16, -1);
+        dueKnot(Texts.TREFOIL, 3, 4, 1, 12, 1, 16, -1);
         dueKnot("x4 2 5 1;x8 6 1 5;x6 3 7 4;x2 7 3 8;", 5, -8, 1, -4, -1, 0, 1, 4, -1, 8, 1);
         dueKnot("x1 6 2 7;x3 8 4 9;x5 10 6 1;x7 2 8 3;x9 4 10 5;", 5, 8, 1, 16, 1, 20, -1, 24, 1, 28, -1);
         dueKnot("x1 4 2 5;x3 8 4 9;x5 10 6 1;x9 6 10 7;x7 2 8 3;", 7, 4, 1, 8, -1, 12, 2, 16, -1, 20, 1, 24, -1);
@@ -98,7 +96,7 @@ public final class BracketTest {
         Check.due("determinant() of a Hopf link", Check.loaded("x4 1 3 2;x2 3 1 4;").determinant(), 2);
         Check.due("determinant() of two circles", Check.loaded("o;o;").determinant(), 0);
         Check.due("determinant() of a virtual crossing", Check.loaded("x1 2 1 2;").determinant(), 1);
-        Check.due("determinant() of a trefoil and a circle", Check.loaded(TREFOIL + "o;").determinant(), 0);
+        Check.due("determinant() of a trefoil and a circle", Check.loaded(Texts.TREFOIL + "o;").determinant(), 0);
     }
 
     private static void dueKnot(String text, int determinant, int... normalized) {
@@ -114,7 +112,7 @@ public final class BracketTest {
     }
 
     private static void exponentsOutOfRange() {
-        KnotDiagram d = Check.loaded(TREFOIL);
+        KnotDiagram d = Check.loaded(Texts.TREFOIL);
         for (int exponent : new int[] {-61, 61, Integer.MIN_VALUE, Integer.MAX_VALUE}) {
             Check.due("coefficient(" + exponent + ")", d.coefficient(exponent), Check.BAD);
             Check.due("normalizedCoefficient(" + exponent + ")", d.normalizedCoefficient(exponent), Check.BAD);
@@ -127,8 +125,7 @@ public final class BracketTest {
 
     /** Eight kinks and four circles apart: the most loops, and the greatest exponents and coefficients. */
     private static void extremes() {
-        KnotDiagram d = Check.loaded("x1 1 2 2;x3 3 4 4;x5 5 6 6;x7 7 8 8;x9 9 10 10;x11 11 12 12;x13 13 14 14;"
-                + "x15 15 16 16;o;o;o;o;");
+        KnotDiagram d = Check.loaded(Texts.EIGHT_KINKS + Texts.circles(4));
         Check.due("stateLoops(0)", d.stateLoops(0), 20);
         Check.due("stateLoops(255)", d.stateLoops(255), 12);
         // (-A^3)^8 * D^11, of which the coefficients are binomial ones with the sign of D^11.
@@ -150,7 +147,7 @@ public final class BracketTest {
     private static void bracketFollowsChanges() {
         KnotDiagram d = new KnotDiagram();
         Check.due("coefficient(0) of a new object", d.coefficient(0), 1);
-        Check.load(d, TREFOIL);
+        Check.load(d, Texts.TREFOIL);
         Check.due("highestExponent() after load()", d.highestExponent(), 7);
         d.save(0);
         d.switchCrossing(0);
@@ -175,27 +172,41 @@ public final class BracketTest {
         int kinks = 0;
         int bigons = 0;
         for (int seed = 0; seed < 4000; seed++) {
-            KnotDiagram d = Check.loaded(new Diagrams(seed).tangledText());
-            for (int crossing = 0; crossing < d.crossingCount(); crossing++) {
-                int[] before = terms(d, false);
-                int partner = d.bigonPartner(crossing);
-                if (partner >= 0 && d.removeBigon(crossing, partner) >= 0) {
-                    Check.holds("bracket after removeBigon, seed " + seed, same(before, terms(d, false)));
-                    bigons++;
-                    break;
-                }
-            }
-            for (int crossing = 0; crossing < d.crossingCount(); crossing++) {
-                int[] before = terms(d, true);
-                boolean isKnot = d.componentCount() == 1;
-                if (d.isKink(crossing) == 1 && isKnot && d.removeKink(crossing) >= 0) {
-                    Check.holds("normalized bracket after removeKink, seed " + seed, same(before, terms(d, true)));
-                    kinks++;
-                    break;
-                }
-            }
+            String text = new Diagrams(seed).tangledText();
+            bigons += bracketStays(text) ? 1 : 0;
+            kinks += normalizedBracketStays(text) ? 1 : 0;
         }
         Check.holds("too few removals: " + kinks + " kinks, " + bigons + " bigons", kinks > 200 && bigons > 200);
+    }
+
+    /** Removes the first bigon, if there is one that can be removed. */
+    private static boolean bracketStays(String text) {
+        KnotDiagram d = Check.loaded(text);
+        for (int crossing = 0; crossing < d.crossingCount(); crossing++) {
+            int partner = d.bigonPartner(crossing);
+            if (partner >= 0) {
+                int[] before = terms(d, false);
+                boolean removed = d.removeBigon(crossing, partner) >= 0;
+                Check.holds("bracket after removeBigon, " + text, same(before, terms(d, false)));
+                return removed;
+            }
+        }
+        return false;
+    }
+
+    /** Removes the first kink of a knot, if there is one that can be removed. */
+    private static boolean normalizedBracketStays(String text) {
+        KnotDiagram d = Check.loaded(text);
+        boolean isKnot = d.componentCount() == 1;
+        for (int crossing = 0; crossing < d.crossingCount(); crossing++) {
+            if (isKnot && d.isKink(crossing) == 1) {
+                int[] before = terms(d, true);
+                boolean removed = d.removeKink(crossing) >= 0;
+                Check.holds("normalized bracket after removeKink, " + text, same(before, terms(d, true)));
+                return removed;
+            }
+        }
+        return false;
     }
 
     private static int[] terms(KnotDiagram d, boolean normalized) {

@@ -1,3 +1,6 @@
+import java.util.function.IntUnaryOperator;
+import java.util.function.ToIntBiFunction;
+
 /** What the tests share: they note every answer that is not the one that is due. */
 final class Check {
     static final int BAD = KnotDiagram.INVALID_ARGUMENT;
@@ -14,6 +17,32 @@ final class Check {
         if (got != want) {
             wrong++;
             System.out.println(what + " answered " + got + ", due is " + want);
+        }
+    }
+
+    /**
+     * No argument from the first to the last one is refused as out of range, and all others are: those just
+     * outside and those far away, of which some would come back by the wrap-around of 32 bits.
+     */
+    static void dueRange(String what, int first, int last, IntUnaryOperator call) {
+        for (int inside = first; inside <= last; inside++) {
+            holds(what + "(" + inside + ") is refused", call.applyAsInt(inside) != BAD);
+        }
+        int[] outside = {first - 1, first - 2, last + 1, last + 2, Integer.MIN_VALUE, Integer.MIN_VALUE + 1,
+            -(1 << 30), BAD, -256, -32, -8, -4, -2, -1, 8, 9, 16, 32, 256, 512, 1 << 16, 1 << 28, 1 << 29, 1 << 30,
+            (1 << 30) + 1, Integer.MAX_VALUE};
+        for (int argument : outside) {
+            if (argument < first || argument > last) {
+                due(what + "(" + argument + ")", call.applyAsInt(argument), BAD);
+            }
+        }
+    }
+
+    /** The range of a parameter that is the number of a crossing, in diagrams with 0 to 8 crossings. */
+    static void dueCrossings(String what, ToIntBiFunction<KnotDiagram, Integer> call) {
+        for (int crossings = 0; crossings <= 8; crossings++) {
+            KnotDiagram diagram = loaded(Texts.virtuals(crossings) + "o;");
+            dueRange(what, 0, crossings - 1, crossing -> call.applyAsInt(diagram, crossing));
         }
     }
 
@@ -42,6 +71,20 @@ final class Check {
         return answer;
     }
 
+    /** What a new object's load() answers for a text, which becomes empty or is kept. */
+    static void dueLoad(String text, int want) {
+        KnotDiagram diagram = new KnotDiagram();
+        append(diagram, text);
+        due("load() of \"" + text + "\"", diagram.load(), want);
+        due("clearText() after load() of \"" + text + "\"", diagram.clearText(), want < 0 ? text.length() : 0);
+    }
+
+    /** The text has a "|" at the error position, which does not belong to it. */
+    static void dueLoadError(String marked) {
+        int position = marked.indexOf('|');
+        dueLoad(marked.substring(0, position) + marked.substring(position + 1), -10 - position);
+    }
+
     /** A new object that has read a text, which must be a diagram. */
     static KnotDiagram loaded(String text) {
         KnotDiagram diagram = new KnotDiagram();
@@ -63,8 +106,27 @@ final class Check {
         return text.append(diagram.circleCount()).append(" circles").toString();
     }
 
+    /**
+     * All that an object holds, as a text: the state, the states that undo() restores, the snapshots and
+     * what becomes of the text. It uses the object up.
+     */
+    static String everything(KnotDiagram diagram) {
+        StringBuilder text = new StringBuilder(state(diagram)).append("\ndepth ").append(diagram.undoDepth());
+        while (diagram.undo() >= 0) {
+            text.append("\nundo ").append(state(diagram));
+        }
+        for (int slot = 0; slot < 2; slot++) {
+            text.append("\nrestore ").append(diagram.restore(slot)).append(": ").append(state(diagram));
+        }
+        text.append("\nload ").append(diagram.load()).append(": ").append(state(diagram));
+        return text.append("\ntext ").append(diagram.clearText()).toString();
+    }
+
     static void dueState(String what, KnotDiagram diagram, String want) {
-        String got = state(diagram);
+        dueText(what, state(diagram), want);
+    }
+
+    static void dueText(String what, String got, String want) {
         if (!got.equals(want)) {
             wrong++;
             System.out.println(what + " left \"" + got + "\", due is \"" + want + "\"");

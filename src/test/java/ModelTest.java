@@ -18,7 +18,8 @@ public final class ModelTest {
             diagram = new KnotDiagram();
             model = new Model();
             calls = 0;
-            enter("run " + run + ", first text: ", diagrams.below(3) == 0 ? diagrams.anyText(8) : diagrams.tangledText());
+            String text = diagrams.below(3) == 0 ? diagrams.anyText(8) : diagrams.tangledText();
+            enter("run " + run + ", first text: ", text);
             while (calls < CALLS - 200) {
                 oneStep("run " + run + ", call " + calls + ": ");
             }
@@ -120,7 +121,8 @@ public final class ModelTest {
     /** Most often the number of a crossing, sometimes one just beside. */
     private static int someCrossing() {
         int crossings = model.crossingCount();
-        return crossings == 0 || diagrams.below(10) == 0 ? diagrams.below(crossings + 3) - 1 : diagrams.below(crossings);
+        boolean beside = crossings == 0 || diagrams.below(10) == 0;
+        return beside ? diagrams.below(crossings + 3) - 1 : diagrams.below(crossings);
     }
 
     private static void askCrossing(String at) {

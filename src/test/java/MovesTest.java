@@ -1,7 +1,5 @@
 /** Promises 5 to 13: what the diagram is, and how it changes. */
 public final class MovesTest {
-    private static final String TREFOIL = "x1 4 2 5;x3 6 4 1;x5 2 6 3;";
-
     private MovesTest() {
     }
 
@@ -25,13 +23,13 @@ public final class MovesTest {
         KnotDiagram d = Check.loaded("o;x1 1 2 2;x3 4 3 4;o;");
         Check.due("crossingCount()", d.crossingCount(), 2);
         Check.due("circleCount()", d.circleCount(), 2);
-        d = Check.loaded(TREFOIL);
+        d = Check.loaded(Texts.TREFOIL);
         Check.due("crossingCount()", d.crossingCount(), 3);
         Check.due("circleCount()", d.circleCount(), 0);
     }
 
     private static void arcs() {
-        KnotDiagram d = Check.loaded(TREFOIL);
+        KnotDiagram d = Check.loaded(Texts.TREFOIL);
         int[] want = {1, 4, 2, 5, 3, 6, 4, 1, 5, 2, 6, 3};
         for (int end = 0; end < want.length; end++) {
             Check.due("arcAt", d.arcAt(end / 4, end % 4), want[end]);
@@ -45,7 +43,7 @@ public final class MovesTest {
     }
 
     private static void switches() {
-        KnotDiagram d = Check.loaded(TREFOIL);
+        KnotDiagram d = Check.loaded(Texts.TREFOIL);
         Check.due("switchCrossing(-1)", d.switchCrossing(-1), Check.BAD);
         Check.due("switchCrossing(3)", d.switchCrossing(3), Check.BAD);
         Check.due("switchCrossing(greatest int)", d.switchCrossing(Integer.MAX_VALUE), Check.BAD);
@@ -76,7 +74,7 @@ public final class MovesTest {
     }
 
     private static void mirrors() {
-        KnotDiagram d = Check.loaded(TREFOIL + "o;");
+        KnotDiagram d = Check.loaded(Texts.TREFOIL + "o;");
         Check.due("mirror()", d.mirror(), 3);
         Check.dueState("mirror()", d, "x 4 2 5 1; x 6 4 1 3; x 2 6 3 5; 1 circles");
         Check.due("undoDepth()", d.undoDepth(), 2);
@@ -98,7 +96,7 @@ public final class MovesTest {
             Check.due("isKink(0) of " + text, Check.loaded(text).isKink(0), 1);
         }
         Check.due("isKink(0) of x1 2 1 2;", Check.loaded("x1 2 1 2;").isKink(0), 0);
-        KnotDiagram d = Check.loaded(TREFOIL);
+        KnotDiagram d = Check.loaded(Texts.TREFOIL);
         for (int crossing = 0; crossing < 3; crossing++) {
             Check.due("isKink(" + crossing + ")", d.isKink(crossing), 0);
             Check.due("removeKink(" + crossing + ")", d.removeKink(crossing), Check.STATE);
@@ -171,7 +169,7 @@ public final class MovesTest {
         Check.due("removeBigon(0, 1) of a clasp", d.removeBigon(0, 1), Check.STATE);
         Check.due("bigonPartner(0) of a kink", Check.loaded("x1 1 2 2;").bigonPartner(0), Check.NONE);
         // A trefoil with one crossing switched comes undone.
-        d = Check.loaded(TREFOIL);
+        d = Check.loaded(Texts.TREFOIL);
         Check.due("bigonPartner(0) of a trefoil", d.bigonPartner(0), Check.NONE);
         d.switchCrossing(0);
         for (int x = 0; x < 2; x++) {

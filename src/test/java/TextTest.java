@@ -1,8 +1,5 @@
 /** Promises 2 to 4: append, clearText and load. */
 public final class TextTest {
-    private static final String EIGHT_KINKS = "x1 1 2 2;x3 3 4 4;x5 5 6 6;x7 7 8 8;x9 9 10 10;x11 11 12 12;"
-            + "x13 13 14 14;x15 15 16 16;";
-
     private TextTest() {
     }
 
@@ -45,24 +42,17 @@ public final class TextTest {
         Check.dueState("clearText() and a new text", d, "1 circles");
     }
 
-    private static void dueLoad(String text, int want) {
-        KnotDiagram d = new KnotDiagram();
-        Check.append(d, text);
-        Check.due("load() of \"" + text + "\"", d.load(), want);
-        Check.due("clearText() after load() of \"" + text + "\"", d.clearText(), want < 0 ? text.length() : 0);
-    }
-
     private static void loadsDiagrams() {
-        dueLoad("o;", 0);
-        dueLoad("o;o;o;o;", 0);
-        dueLoad("x1 1 2 2;", 1);
-        dueLoad("x16 16 9 9;", 1);
-        dueLoad("x10 1 10 1;", 1);
-        dueLoad("  x 1  1 2 2  ; o ;  ", 1);
-        dueLoad("o;o;x1 1 2 2;o;o;", 1);
-        dueLoad(EIGHT_KINKS, 8);
-        dueLoad(EIGHT_KINKS + "o;o;o;o;", 8);
-        dueLoad(EIGHT_KINKS + " ".repeat(160 - EIGHT_KINKS.length()), 8);
+        Check.dueLoad("o;", 0);
+        Check.dueLoad("o;o;o;o;", 0);
+        Check.dueLoad("x1 1 2 2;", 1);
+        Check.dueLoad("x16 16 9 9;", 1);
+        Check.dueLoad("x10 1 10 1;", 1);
+        Check.dueLoad("  x 1  1 2 2  ; o ;  ", 1);
+        Check.dueLoad("o;o;x1 1 2 2;o;o;", 1);
+        Check.dueLoad(Texts.EIGHT_KINKS, 8);
+        Check.dueLoad(Texts.EIGHT_KINKS + "o;o;o;o;", 8);
+        Check.dueLoad(Texts.EIGHT_KINKS + " ".repeat(160 - Texts.EIGHT_KINKS.length()), 8);
         KnotDiagram d = Check.loaded("x16 3 3 7;o;x7 12 16 12;");
         Check.dueState("load()", d, "x 16 3 3 7; x 7 12 16 12; 1 circles");
         Check.due("undoDepth()", d.undoDepth(), 1);
@@ -74,86 +64,80 @@ public final class TextTest {
         Check.dueState("undo()", d, "1 circles");
     }
 
-    /** The "|" stands before the token that is not allowed. */
-    private static void dueRefusal(String marked) {
-        int position = marked.indexOf('|');
-        dueLoad(marked.substring(0, position) + marked.substring(position + 1), -10 - position);
-    }
-
     private static void refusesTokens() {
-        dueRefusal("|;");
-        dueRefusal("|1");
-        dueRefusal(" |12 x");
-        dueRefusal("|y");
-        dueRefusal("|X1 1 2 2;");
-        dueRefusal("|O;");
-        dueRefusal("|\t");
-        dueRefusal("|\u0000");
-        dueRefusal("|\u00a0");
-        dueRefusal("|-");
-        dueRefusal("x|x");
-        dueRefusal("x|;");
-        dueRefusal("x |o");
-        dueRefusal("o|o");
-        dueRefusal("o |x");
-        dueRefusal("o|1;");
-        dueRefusal("o;|;");
-        dueRefusal("o;|3");
-        dueRefusal("x1 1 2|;");
-        dueRefusal("x1 1 2|x");
-        dueRefusal("x1 1 2 2|x");
-        dueRefusal("x1 1 2 2|o");
-        dueRefusal("x1 1 2 2 |3;");
-        dueRefusal("x1 1 2 2 |17;");
-        dueRefusal("x1 1 2 2|:");
-        dueRefusal("x1 1 2 2;|;");
-        dueRefusal("x1|,1,2,2;");
-        dueRefusal("x1\u00b2".replace("\u00b2", "|\u00b2"));
-        dueRefusal("x|0 0 1 1;");
-        dueRefusal("x|00 1 2 2;");
-        dueRefusal("x|01 1 2 2;");
-        dueRefusal("x1 |01 2 2;");
-        dueRefusal("x|17 17 2 2;");
-        dueRefusal("x|20 1 1 2;");
-        dueRefusal("x|99 1 1 2;");
-        dueRefusal("x|100 1 2 2;");
-        dueRefusal("x|160 1 2 2;");
-        dueRefusal("x|112 2;");
-        dueRefusal("x1 |122;");
-        dueRefusal("x|4294967297 1 2 2;");
-        dueRefusal("x|" + "1".repeat(150));
-        dueRefusal("x1 1 |1 2;");
-        dueRefusal("x1 1 2 |1;");
-        dueRefusal("x1 1 2 2;x3 3 4 |1;");
-        dueRefusal("x1 1 2 2;x|2");
-        dueRefusal("x1 1 2 2;x3 |2?");
-        dueRefusal("o;o;o;o;|o;");
-        dueRefusal("o;x1 1 2 2;o;o;o;|o");
-        dueRefusal("o;o;o;o;|oy");
-        dueRefusal(EIGHT_KINKS + "|x");
-        dueRefusal(EIGHT_KINKS + "o;|x1 1 2 2;");
+        Check.dueLoadError("|;");
+        Check.dueLoadError("|1");
+        Check.dueLoadError(" |12 x");
+        Check.dueLoadError("|y");
+        Check.dueLoadError("|X1 1 2 2;");
+        Check.dueLoadError("|O;");
+        Check.dueLoadError("|\t");
+        Check.dueLoadError("|\u0000");
+        Check.dueLoadError("|\u00a0");
+        Check.dueLoadError("|-");
+        Check.dueLoadError("x|x");
+        Check.dueLoadError("x|;");
+        Check.dueLoadError("x |o");
+        Check.dueLoadError("o|o");
+        Check.dueLoadError("o |x");
+        Check.dueLoadError("o|1;");
+        Check.dueLoadError("o;|;");
+        Check.dueLoadError("o;|3");
+        Check.dueLoadError("x1 1 2|;");
+        Check.dueLoadError("x1 1 2|x");
+        Check.dueLoadError("x1 1 2 2|x");
+        Check.dueLoadError("x1 1 2 2|o");
+        Check.dueLoadError("x1 1 2 2 |3;");
+        Check.dueLoadError("x1 1 2 2 |17;");
+        Check.dueLoadError("x1 1 2 2|:");
+        Check.dueLoadError("x1 1 2 2;|;");
+        Check.dueLoadError("x1|,1,2,2;");
+        Check.dueLoadError("x1\u00b2".replace("\u00b2", "|\u00b2"));
+        Check.dueLoadError("x|0 0 1 1;");
+        Check.dueLoadError("x|00 1 2 2;");
+        Check.dueLoadError("x|01 1 2 2;");
+        Check.dueLoadError("x1 |01 2 2;");
+        Check.dueLoadError("x|17 17 2 2;");
+        Check.dueLoadError("x|20 1 1 2;");
+        Check.dueLoadError("x|99 1 1 2;");
+        Check.dueLoadError("x|100 1 2 2;");
+        Check.dueLoadError("x|160 1 2 2;");
+        Check.dueLoadError("x|112 2;");
+        Check.dueLoadError("x1 |122;");
+        Check.dueLoadError("x|4294967297 1 2 2;");
+        Check.dueLoadError("x|" + "1".repeat(150));
+        Check.dueLoadError("x1 1 |1 2;");
+        Check.dueLoadError("x1 1 2 |1;");
+        Check.dueLoadError("x1 1 2 2;x3 3 4 |1;");
+        Check.dueLoadError("x1 1 2 2;x|2");
+        Check.dueLoadError("x1 1 2 2;x3 |2?");
+        Check.dueLoadError("o;o;o;o;|o;");
+        Check.dueLoadError("o;x1 1 2 2;o;o;o;|o");
+        Check.dueLoadError("o;o;o;o;|oy");
+        Check.dueLoadError(Texts.EIGHT_KINKS + "|x");
+        Check.dueLoadError(Texts.EIGHT_KINKS + "o;|x1 1 2 2;");
         // A token that is not allowed counts before arcs that occur once.
-        dueRefusal("x1 2 3 4;|?");
+        Check.dueLoadError("x1 2 3 4;|?");
     }
 
     private static void refusesUnfinishedTexts() {
-        dueRefusal("|");
-        dueRefusal(" |");
-        dueRefusal(" ".repeat(160) + "|");
-        dueRefusal("x|");
-        dueRefusal("x |");
-        dueRefusal("x1|");
-        dueRefusal("x1 1 2|");
-        dueRefusal("x1 1 2 2|");
-        dueRefusal("o|");
-        dueRefusal("o |");
-        dueRefusal("o;x|");
-        dueRefusal("x1 1 2 2;o|");
-        dueRefusal("x1 2 3 4;|");
-        dueRefusal("x1 1 2 3;|");
-        dueRefusal("x1 1 2 3; |");
-        dueRefusal("x1 2 3 4;x1 2 3 5;|");
-        dueRefusal("o;x1 2 2 3;o;|");
+        Check.dueLoadError("|");
+        Check.dueLoadError(" |");
+        Check.dueLoadError(" ".repeat(160) + "|");
+        Check.dueLoadError("x|");
+        Check.dueLoadError("x |");
+        Check.dueLoadError("x1|");
+        Check.dueLoadError("x1 1 2|");
+        Check.dueLoadError("x1 1 2 2|");
+        Check.dueLoadError("o|");
+        Check.dueLoadError("o |");
+        Check.dueLoadError("o;x|");
+        Check.dueLoadError("x1 1 2 2;o|");
+        Check.dueLoadError("x1 2 3 4;|");
+        Check.dueLoadError("x1 1 2 3;|");
+        Check.dueLoadError("x1 1 2 3; |");
+        Check.dueLoadError("x1 2 3 4;x1 2 3 5;|");
+        Check.dueLoadError("o;x1 2 2 3;o;|");
     }
 
     private static void keepsRefusedText() {

@@ -1,7 +1,5 @@
 /** Promises 28 to 31: undo, undoDepth, save and restore. */
 public final class UndoTest {
-    private static final String TREFOIL = "x1 4 2 5;x3 6 4 1;x5 2 6 3;";
-
     private UndoTest() {
     }
 
@@ -20,7 +18,7 @@ public final class UndoTest {
         KnotDiagram d = new KnotDiagram();
         String[] states = new String[8];
         states[0] = Check.state(d);
-        Check.due("load()", Check.load(d, TREFOIL + "o;"), 3);
+        Check.due("load()", Check.load(d, Texts.TREFOIL + "o;"), 3);
         states[1] = Check.state(d);
         Check.due("mirror()", d.mirror(), 3);
         states[2] = Check.state(d);
@@ -79,7 +77,7 @@ public final class UndoTest {
     }
 
     private static void refusedCallsSaveNothing() {
-        KnotDiagram d = Check.loaded(TREFOIL);
+        KnotDiagram d = Check.loaded(Texts.TREFOIL);
         Check.load(d, "x");
         d.switchCrossing(3);
         d.removeKink(0);
@@ -99,7 +97,7 @@ public final class UndoTest {
     }
 
     private static void snapshots() {
-        KnotDiagram d = Check.loaded(TREFOIL + "o;o;");
+        KnotDiagram d = Check.loaded(Texts.TREFOIL + "o;o;");
         Check.due("restore(0) of an empty slot", d.restore(0), Check.STATE);
         Check.due("save(0)", d.save(0), 3);
         Check.due("restore(1) of an empty slot", d.restore(1), Check.STATE);
@@ -131,7 +129,7 @@ public final class UndoTest {
     }
 
     private static void restoreDiscardsSavedStates() {
-        KnotDiagram d = Check.loaded(TREFOIL);
+        KnotDiagram d = Check.loaded(Texts.TREFOIL);
         d.mirror();
         d.save(1);
         Check.due("undoDepth() after save()", d.undoDepth(), 2);

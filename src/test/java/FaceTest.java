@@ -21,7 +21,12 @@ public final class FaceTest {
     public static void main(String[] args) {
         constants();
         members();
-        insideClasses();
+        Set<String> publicNames = new HashSet<>();
+        for (String method : METHODS) {
+            publicNames.add(method.substring(0, method.indexOf(' ')));
+        }
+        privateNames(publicNames);
+        insideClasses(publicNames);
         Check.finish();
     }
 
@@ -64,11 +69,15 @@ public final class FaceTest {
         Check.due("constructor's parameters", constructors[0].getParameterCount(), 0);
     }
 
-    private static void insideClasses() {
-        Set<String> publicNames = new HashSet<>();
-        for (String method : METHODS) {
-            publicNames.add(method.substring(0, method.indexOf(' ')));
+    private static void privateNames(Set<String> publicNames) {
+        for (Method method : KnotDiagram.class.getDeclaredMethods()) {
+            if (Modifier.isPrivate(method.getModifiers())) {
+                Check.holds(method + " bears a public name", !publicNames.contains(method.getName()));
+            }
         }
+    }
+
+    private static void insideClasses(Set<String> publicNames) {
         Class<?>[] classes = KnotDiagram.class.getDeclaredClasses();
         Check.holds("too many classes", classes.length <= 11);
         for (Class<?> inside : classes) {

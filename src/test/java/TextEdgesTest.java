@@ -17,6 +17,7 @@ public final class TextEdgesTest {
         endInsideStatement();
         noStatement();
         arcsThatOccurOnce();
+        earlierTexts();
         Check.finish();
     }
 
@@ -69,19 +70,19 @@ public final class TextEdgesTest {
         for (int number = 0; number <= 300; number++) {
             boolean isArc = number >= 1 && number <= 16;
             int other = number == 3 ? 4 : 3;
-            String[] texts = {"x|# # @ @;", "x@ |# # @;", "x@ @ |# #;", "x# @ @ |#;"};
-            for (int place = 0; place < 3; place++) {
-                String marked = texts[place].replace("#", "" + number).replace("@", "" + other);
+            for (String text : new String[] {"x|# # @ @;", "x@ |# # @;", "x@ @ |# #;"}) {
+                String marked = text.replace("#", "" + number).replace("@", "" + other);
                 if (isArc) {
                     Check.dueLoad(marked.replace("|", ""), 1);
                 } else {
                     Check.dueLoadError(marked);
                 }
             }
-            // At the last end the first one would be refused before; so another arc stands there.
-            String last = "x" + other + " 5 6 |" + number + ";";
-            if (!isArc) {
-                Check.dueLoadError(last);
+            if (isArc) {
+                Check.dueLoad("x" + number + " " + other + " " + other + " " + number + ";", 1);
+            } else {
+                // The first end would be refused before the last one; so another arc stands there.
+                Check.dueLoadError("x" + other + " 5 6 |" + number + ";");
             }
             Check.dueLoadError("x1 1 2 2 |" + number + ";");
             Check.dueLoadError("o|" + number + ";");
@@ -291,5 +292,29 @@ public final class TextEdgesTest {
         Check.dueLoadError("x1 2 3 3;x4 4 5 5;x6 6 7 7;|");
         Check.dueLoadError(Texts.kinks(6) + "x13 14 15 16;|");
         Check.dueLoadError(Texts.kinks(6) + "x14 13 13 16;|");
+    }
+
+    /** "which append() builds one character at a time": what stood behind the end in an earlier text is gone */
+    private static void earlierTexts() {
+        String[] begun = {"", " ", "o", "o;", "o;x", "x1", "x1 ", "x1 1", "x1 1 2", "x1 1 2 2", "x1 1 2 2;"};
+        for (String earlier : new String[] {"9", "0", ";", "?", " ", "x", "o"}) {
+            for (String text : begun) {
+                KnotDiagram d = new KnotDiagram();
+                Check.append(d, earlier.repeat(30));
+                d.clearText();
+                Check.append(d, text);
+                KnotDiagram fresh = new KnotDiagram();
+                Check.append(fresh, text);
+                String what = "\"" + text + "\" after \"" + earlier + "\"";
+                Check.due("load() of " + what, d.load(), fresh.load());
+                Check.dueText("load() of " + what, Check.everything(d), Check.everything(fresh));
+            }
+        }
+        // The same behind a text that load() emptied.
+        KnotDiagram d = Check.loaded("x 9 9 1 1;");
+        Check.append(d, "x1");
+        Check.due("load() of \"x1\" after load()", d.load(), -12);
+        Check.due("append() after load()", Check.append(d, " 1"), 4);
+        Check.due("load() of \"x1 1\" after load()", d.load(), -14);
     }
 }
